@@ -945,13 +945,15 @@ public final class LampShares {
             }
         }
 
-        /** Each set's sum is that of the set without its least SPOT, which came ahead of it, and one LIGHT more. */
+        /** The sets with a SPOT come behind all sets of SPOTS ahead of it, so each needs one LIGHT more alone. */
         private void sumUp(int point, int standing) {
-            int all = setCount();
             sums[0] = floor.glow;
-            for (int set = 1; set < all; set++) {
-                int least = Integer.numberOfTrailingZeros(set);
-                sums[set] = sums[set & set - 1] + floor.lightOf(least, point, standing);
+            for (int spot = 0; spot < floor.spotCount && spot < MAX_SPOTS; spot++) {
+                int bit = 1 << spot;
+                int more = floor.lightOf(spot, point, standing);
+                for (int set = 0; set < bit; set++) {
+                    sums[bit + set] = sums[set] + more;
+                }
             }
         }
 
@@ -974,23 +976,23 @@ public final class LampShares {
 
         private int choose(int how) {
             int chosen = NONE;
+            int least = 0;
             for (int set = 0; set < setCount(); set++) {
                 if (!servesAll(set) || how == SAFE && !servesWithoutAnyOne(set)) {
                     continue;
                 }
-                if (chosen == NONE || isBetter(how, set, chosen)) {
+                int rank = rankOf(how, set);
+                if (chosen == NONE || rank < least) {
                     chosen = set;
+                    least = rank;
                 }
             }
             return chosen;
         }
 
-        private boolean isBetter(int how, int set, int than) {
-            int more = Integer.bitCount(set) - Integer.bitCount(than);
-            if (how == FEWEST && more != 0) {
-                return more < 0;
-            }
-            return floor.priceOf(set) < floor.priceOf(than);
+        /** FEWEST looks at SPOTS ahead of the PRICE: eight PRICES of at most 9 stay below 100. */
+        private int rankOf(int how, int set) {
+            return floor.priceOf(set) + (how == FEWEST ? 100 * Integer.bitCount(set) : 0);
         }
 
         private int leastPriceFor(int point) {
