@@ -302,6 +302,8 @@ public final class CallsTest {
         C.due("served by two", x.best(0, 2), 2);
         C.due("floor", x.point(0, 5), 2);
         C.due("share", x.share(7, false), 2);
+        x.want(0, 9);
+        C.due("served by glow, so by any set", x.best(0, 0), 0);
         Checks.planAnew(x, OWN + "f0009");
         for (int how = 0; how <= 2; how++) {
             C.due("best(" + how + ", 0) without spots", x.best(how, 0), NONE);
