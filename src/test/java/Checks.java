@@ -108,7 +108,7 @@ final class Checks {
         all.append(' ').append(desk.which()).append(" |");
     }
 
-    /** All that the desk would ever tell: ACTS are undone, SLOTS gone on from, the text is read anew. It is spent then. */
+    /** What the desk holds: ACTS are undone, SLOTS gone on from, the text is read anew. It is spent then. */
     static String fate(LampShares desk) {
         StringBuilder all = new StringBuilder("seed " + seedOf(desk) + " glow " + desk.count(4) + " |");
         stand(desk, all);
