@@ -598,8 +598,8 @@ public final class LampShares {
         }
 
         private void throwRays() {
-            for (int spot = 0; spot < spotCount; spot++) {
-                for (int point = 0; point < pointCount; point++) {
+            for (int spot = 0; spot < spotCount && spot < MAX_SPOTS; spot++) {
+                for (int point = 0; point < pointCount && point < MAX_POINTS; point++) {
                     int ray = spot * MAX_POINTS + point;
                     bareLight[ray] = lightWithoutWalls(spot, point);
                     across[ray] = 0;
@@ -616,7 +616,7 @@ public final class LampShares {
             int dx = spotFigure(spot, 0) - pointFigure(point, 0);
             int dy = spotFigure(spot, 1) - pointFigure(point, 1);
             int q = dx * dx + dy * dy;
-            return q >= TABLE_FIGURES ? 0 : spotFigure(spot, 2) * table[q];
+            return q < 0 || q >= TABLE_FIGURES ? 0 : spotFigure(spot, 2) * table[q];
         }
 
         /** In half CELLS, so that the midst of a CELL has whole numbers. */

@@ -45,6 +45,7 @@ public final class FaceTest {
         for (Method method : type.getDeclaredMethods()) {
             if (!Modifier.isPrivate(method.getModifiers())) {
                 methods.add(signature(method));
+                C.due("modifiers of " + method, method.getModifiers(), Modifier.PUBLIC);
             }
         }
         C.same("methods", methods.toString(), new TreeSet<>(FACE).toString());
@@ -52,6 +53,8 @@ public final class FaceTest {
         for (Field field : type.getDeclaredFields()) {
             if (!Modifier.isPrivate(field.getModifiers())) {
                 constants.add(field.getName());
+                C.same("type of " + field, field.getType().toString(), "int");
+                C.due("modifiers of " + field, field.getModifiers(), Modifier.PUBLIC | Modifier.STATIC | Modifier.FINAL);
             }
         }
         C.same("constants", constants.toString(), "[FULL, NONE, OUTSIDE, STATE, UNKNOWN]");
@@ -79,12 +82,14 @@ public final class FaceTest {
         }
     }
 
-    private static void membersOf(Class<?> type, TreeSet<String> open) {
+    private static void membersOf(Class<?> type, TreeSet<String> faceNames) {
         if (type != LampShares.class) {
             C.due(type + " is static", Modifier.isStatic(type.getModifiers()) ? 1 : 0, 1);
+            boolean open = isPublic(type.getModifiers()) || Modifier.isProtected(type.getModifiers());
+            C.due(type + " is of the face", open ? 1 : 0, 0);
         }
         for (Method method : type.getDeclaredMethods()) {
-            boolean bearsName = !isPublic(method.getModifiers()) && open.contains(method.getName());
+            boolean bearsName = !isPublic(method.getModifiers()) && faceNames.contains(method.getName());
             C.due("a name of the face: " + method, bearsName ? 1 : 0, 0);
             C.due("at most seven parameters: " + method, method.getParameterCount() <= 7 ? 1 : 0, 1);
         }
@@ -111,6 +116,19 @@ public final class FaceTest {
             C.due(called.group() + " is exact", called.group(2).endsWith("Exact") ? 1 : 0, 0);
         }
         madeInConstructorsAlone(code);
+        methodsAreShort(code);
+    }
+
+    /** A method begins with a line that ends in ') {' behind 'private' or 'public', and ends at its own indent. */
+    private static void methodsAreShort(String code) {
+        Matcher method = Pattern.compile("(?ms)^( +)(?:private|public) [^;=]*?\\) \\{$.*?^\\1\\}$").matcher(code);
+        int methods = 0;
+        while (method.find()) {
+            methods++;
+            String whole = method.group();
+            C.due("more than sixty lines: " + whole.lines().findFirst().get(), whole.lines().count() > 60 ? 1 : 0, 0);
+        }
+        C.due("methods were found", methods > FACE.size() ? 1 : 0, 1);
     }
 
     /** No call makes an object: so a run's room is that of the desks it makes. */
